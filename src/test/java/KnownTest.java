@@ -1,0 +1,42 @@
+/** Promise 8: how many writes a replica's set has, tentative and committed ones alike. */
+public final class KnownTest {
+    private static final Due due = new Due();
+
+    public static void main(String[] args) {
+        TentativeLog log = new TentativeLog(3);
+        for (int bad : new int[] {Integer.MIN_VALUE, -1, 3, 4, Integer.MAX_VALUE}) {
+            due.is("known(" + bad + ")", log.known(bad), TentativeLog.BAD_REPLICA);
+        }
+        for (int n = 0; n < 48; n++) {
+            due.is("known(1) before write " + n, log.known(1), n);
+            log.write(1, TentativeLog.TAKE, 0, 1);
+        }
+        due.is("full: known(1)", log.known(1), 48);
+        log.write(1, TentativeLog.TAKE, 0, 1);
+        due.is("refused: known(1)", log.known(1), 48);
+        due.is("known(0)", log.known(0), 0);
+        log.bring(1, 0);
+        due.is("learned: known(0)", log.known(0), 48);
+        log.commit(20);
+        log.trim(0, 20);
+        due.is("committed and trimmed: known(0)", log.known(0), 48);
+        due.is("known(2)", log.known(2), 0);
+        union();
+        due.end();
+    }
+
+    private static void union() {
+        TentativeLog log = new TentativeLog(4);
+        log.write(0, TentativeLog.ADD, 0, 1);
+        log.bring(0, 1);
+        log.bring(0, 2);
+        log.write(1, TentativeLog.ADD, 0, 1);
+        log.write(2, TentativeLog.ADD, 0, 1);
+        log.bring(1, 3);
+        log.bring(2, 3);
+        due.is("known(3)", log.known(3), 3);
+        due.is("known(1)", log.known(1), 2);
+        due.is("known(2)", log.known(2), 2);
+        due.is("known(0)", log.known(0), 1);
+    }
+}
