@@ -1,53 +1,56 @@
 /** Promise 6: a cell of the store, which is the stable store and then the tentative writes. */
 public final class CellTest {
+    private static final int MIN = Integer.MIN_VALUE;
+    private static final int MAX = Integer.MAX_VALUE;
     private static final Due due = new Due();
 
     public static void main(String[] args) {
-        TentativeLog log = new TentativeLog(3);
-        for (int c = 0; c < 8; c++) {
-            log.write(0, TentativeLog.SET, c, 10 + c);
-        }
-        due.store("tentative", log, 0, 10, 11, 12, 13, 14, 15, 16, 17);
-        due.store("unknown to it", log, 1, 0, 0, 0, 0, 0, 0, 0, 0);
-        wrongInputs(log);
-        log.commit(4);
-        due.store("half committed", log, 0, 10, 11, 12, 13, 14, 15, 16, 17);
-        wrongInputs(log);
-        asksChangeNothing(log);
-        stableFirst();
+        due.under("A cell of the replica's store.", CellTest::everyCell);
+        due.under("0 if the replica is not good", CellTest::badReplica);
+        due.under("or the cell not in 0 to 7", CellTest::badCell);
         due.end();
     }
 
-    private static void wrongInputs(TentativeLog log) {
-        for (int bad : new int[] {Integer.MIN_VALUE, -1, 3, 4, Integer.MAX_VALUE}) {
-            due.is("cell(" + bad + ", 0)", log.cell(bad, 0), 0);
+    /** Every replica's every cell is other than 0, so that a 0 can come of nothing else. */
+    private static TentativeLog filled(int replicas) {
+        TentativeLog log = new TentativeLog(replicas);
+        for (int r = 0; r < replicas; r++) {
+            for (int c = 0; c < 8; c++) {
+                log.write(r, TentativeLog.SET, c, 10 * r + c + 1);
+            }
         }
-        for (int bad : new int[] {Integer.MIN_VALUE, -1, 8, 9, Integer.MAX_VALUE}) {
-            due.is("cell(0, " + bad + ")", log.cell(0, bad), 0);
-            due.is("cell(3, " + bad + ")", log.cell(3, bad), 0);
+        return log;
+    }
+
+    private static void everyCell() {
+        TentativeLog log = filled(4);
+        due.store("its own", log, 0, 1, 2, 3, 4, 5, 6, 7, 8);
+        due.store("its own", log, 3, 31, 32, 33, 34, 35, 36, 37, 38);
+        log.commit(4);
+        due.store("half committed", log, 0, 1, 2, 3, 4, 5, 6, 7, 8);
+        log.commit(4);
+        due.store("all committed", log, 0, 1, 2, 3, 4, 5, 6, 7, 8);
+        log.bring(0, 3);
+        due.store("its own behind the committed ones", log, 3, 31, 32, 33, 34, 35, 36, 37, 38);
+    }
+
+    private static void badReplica() {
+        for (int replicas = 2; replicas <= 4; replicas++) {
+            TentativeLog log = filled(replicas);
+            for (int bad : new int[] {MIN, -4, -1, replicas, replicas + 1, 8, MAX}) {
+                for (int c = 0; c < 8; c++) {
+                    due.is(replicas + " replicas: cell(" + bad + ", " + c + ")", log.cell(bad, c), 0);
+                }
+            }
         }
     }
 
-    private static void asksChangeNothing(TentativeLog log) {
-        for (int time = 0; time < 3; time++) {
-            due.is("cell(0, 5)", log.cell(0, 5), 15);
-            due.is("stable(0, 5)", log.stable(0, 5), 0);
-            due.is("cell(1, 5)", log.cell(1, 5), 0);
-            due.is("standing(0, 5)", log.standing(0, 5), TentativeLog.APPLIED);
+    private static void badCell() {
+        TentativeLog log = filled(3);
+        for (int bad : new int[] {MIN, -8, -1, 8, 9, 15, 16, MAX}) {
+            for (int r = -1; r <= 3; r++) {
+                due.is("cell(" + r + ", " + bad + ")", log.cell(r, bad), 0);
+            }
         }
-    }
-
-    /** The committed write has the greater stamp, and still runs first. */
-    private static void stableFirst() {
-        TentativeLog log = new TentativeLog(2);
-        log.write(0, TentativeLog.ADD, 1, 0);
-        log.write(0, TentativeLog.ADD, 1, 0);
-        log.write(0, TentativeLog.SET, 0, 5);
-        log.commit(3);
-        log.write(1, TentativeLog.SET, 0, 8);
-        log.bring(0, 1);
-        due.is("cell(1, 0)", log.cell(1, 0), 8);
-        due.is("stable(1, 0)", log.stable(1, 0), 5);
-        due.is("cell(0, 0)", log.cell(0, 0), 5);
     }
 }
