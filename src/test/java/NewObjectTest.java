@@ -125,6 +125,12 @@ public final class NewObjectTest {
         TentativeLog second = new TentativeLog(2);
         first.write(0, TentativeLog.SET, 0, 1);
         first.commit(1);
-        due.same("another object was used", second, new TentativeLog(2), 2);
+        due.is("another object was used: known(0)", second.known(0), 0);
+        due.is("another object was used: committed(0)", second.committed(0), 0);
+        due.is("another object was used: cell(0, 0)", second.cell(0, 0), 0);
+        due.is("another object was used: stable(0, 0)", second.stable(0, 0), 0);
+        due.is("another object was used: standing(0, 0)", second.standing(0, 0), TentativeLog.UNKNOWN);
+        due.is("another object was used: first number", second.write(0, TentativeLog.SET, 0, 2), 0);
+        due.is("the first object's cell(0, 0)", first.cell(0, 0), 1);
     }
 }
