@@ -6,6 +6,7 @@ public final class CellTest {
 
     public static void main(String[] args) {
         due.under("A cell of the replica's store.", CellTest::everyCell);
+        due.under("A cell of the replica's store.", CellTest::onItsOwnStableStore);
         due.under("0 if the replica is not good", CellTest::badReplica);
         due.under("or the cell not in 0 to 7", CellTest::badCell);
         due.end();
@@ -32,6 +33,21 @@ public final class CellTest {
         due.store("all committed", log, 0, 1, 2, 3, 4, 5, 6, 7, 8);
         log.bring(0, 3);
         due.store("its own behind the committed ones", log, 3, 31, 32, 33, 34, 35, 36, 37, 38);
+    }
+
+    /** Replica 0 knows of more commits than the others, whose stores start where their own m ends. */
+    private static void onItsOwnStableStore() {
+        TentativeLog log = new TentativeLog(3);
+        log.write(0, TentativeLog.ADD, 0, 1);
+        log.write(0, TentativeLog.ADD, 0, 10);
+        log.write(1, TentativeLog.ADD, 0, 100);
+        log.commit(1);
+        due.is("m is 0 here and 1 at replica 0: cell(1, 0)", log.cell(1, 0), 100);
+        due.is("m is 0 here and 1 at replica 0: cell(2, 0)", log.cell(2, 0), 0);
+        log.bring(0, 1);
+        log.commit(1);
+        due.is("m is 1 here and 2 at replica 0: cell(1, 0)", log.cell(1, 0), 111);
+        due.is("m is 2: cell(0, 0)", log.cell(0, 0), 11);
     }
 
     private static void badReplica() {

@@ -18,6 +18,8 @@ public final class FaceTest {
         due.is("the class is public and final",
                 TentativeLog.class.getModifiers(), Modifier.PUBLIC | Modifier.FINAL);
         due.is("nested classes", TentativeLog.class.getDeclaredClasses().length, 0);
+        due.is("interfaces", TentativeLog.class.getInterfaces().length, 0);
+        due.is("it extends no other class", TentativeLog.class.getSuperclass() == Object.class ? 1 : 0, 1);
         due.end();
     }
 
@@ -34,6 +36,7 @@ public final class FaceTest {
             }
             seen++;
             due.is("modifiers of " + field.getName(), field.getModifiers(), constant);
+            due.is(field.getName() + " is an int", field.getType() == int.class ? 1 : 0, 1);
             due.is(field.getName() + " is in the document", want.containsKey(field.getName()) ? 1 : 0, 1);
             due.is(field.getName(), field.getInt(null), want.getOrDefault(field.getName(), 99));
         }
@@ -44,9 +47,14 @@ public final class FaceTest {
         Set<String> want = new TreeSet<>(Set.of(
                 "write 4", "bring 2", "commit 1", "trim 2", "cell 2", "stable 2", "known 1", "committed 1",
                 "standing 2"));
+        Set<String> names = new TreeSet<>();
+        for (String method : want) {
+            names.add(method.substring(0, method.indexOf(' ')));
+        }
         Set<String> got = new TreeSet<>();
         for (Method method : TentativeLog.class.getDeclaredMethods()) {
             if (Modifier.isPrivate(method.getModifiers())) {
+                due.is("private methods named " + method.getName(), names.contains(method.getName()) ? 1 : 0, 0);
                 continue;
             }
             got.add(method.getName() + " " + method.getParameterCount());
@@ -64,5 +72,6 @@ public final class FaceTest {
         due.is("constructors", all.length, 1);
         due.is("the constructor is public", all[0].getModifiers(), Modifier.PUBLIC);
         due.is("the constructor's parameters", all[0].getParameterCount(), 1);
+        due.is("the constructor takes an int", all[0].getParameterTypes()[0] == int.class ? 1 : 0, 1);
     }
 }

@@ -12,6 +12,8 @@ public final class StandingTest {
         due.under("COMMITTED if it is among the first m of the commit order", StandingTest::committed);
         due.under("COMMITTED if it is among the first m of the commit order", StandingTest::committedThoughItFailed);
         due.under("else the outcome of the tentative write: APPLIED, MERGED or FAILED.", StandingTest::outcome);
+        due.under("else the outcome of the tentative write: APPLIED, MERGED or FAILED.",
+                StandingTest::onItsOwnStableStore);
         due.under("How a write stands at a replica.", StandingTest::itsOwnViewOfTheOrder);
         due.end();
     }
@@ -124,6 +126,21 @@ public final class StandingTest {
         log.commit(3);
         standings(log, "three committed", 0, 1, 1, 1, 3, 4);
         standings(log, "not heard of", 1, 2, 2, 2, 3, 4);
+    }
+
+    /** What replica 0 has committed counts for another's write when that one has heard of it, not before. */
+    private static void onItsOwnStableStore() {
+        TentativeLog log = new TentativeLog(2);
+        log.write(0, TentativeLog.ADD, 1, 4);
+        log.write(0, TentativeLog.ADD, 0, 4);
+        log.write(1, TentativeLog.TAKE, 0, 4);
+        log.commit(1);
+        due.is("m is 0 here and 1 at replica 0: standing(1, 2)", log.standing(1, 2), TentativeLog.FAILED);
+        log.bring(0, 1);
+        log.commit(1);
+        due.is("m is 1 here and 2 at replica 0: standing(1, 2)", log.standing(1, 2), TentativeLog.MERGED);
+        log.bring(0, 1);
+        due.is("m is 2 at both: standing(1, 2)", log.standing(1, 2), TentativeLog.APPLIED);
     }
 
     /** The same write stands otherwise where other writes are known. */
